@@ -11,7 +11,7 @@ public final class ModelTest {
   private static final int RUNS = 400;
   // No object is called more than 512 times: telling everything takes some 420 calls.
   private static final int CALLS_OF_A_LONG_RUN = 440;
-  private static final int CALLS_OF_A_TOLD_RUN = 50;
+  private static final int CALLS_OF_A_TOLD_RUN = 40;
   private static final String[] LONG_LINES = {
     "curl 0+o", "curl 1-u", "poke 0 2=+", "poke 3 1x-", "switch 0", "mirror", "reverse", "turn 1",
     "reduce", "player", "bet 0 1:30", "bet 1 0:7", "settle", "uncurl 0", "unpoke 0 1", "turn 12"

@@ -1,3 +1,4 @@
+import java.util.List;
 import java.util.NoSuchElementException;
 
 /** For each promise of the document ordinary calls, the edges that it names, and wrong ones. */
@@ -246,6 +247,10 @@ public final class PromiseTest {
     due(lab.reverse(), 2);
     due(diagram(lab), "o2+ u2+ o1- u1- u0+ o0+");
     due(lab.reverse(), 0);
+    KnotLaboratory inner = after("curl 0+o;curl 2-u;curl 3+u");
+    due(diagram(inner), "o0+ u0+ u1- u2+ o2+ o1-");
+    due(inner.reverse(), 1);
+    due(diagram(inner), "o1- o2+ u2+ u1- u0+ o0+");
     KnotLaboratory empty = new KnotLaboratory();
     due(empty.reverse(), -1);
     due(empty.undo(), 0);
@@ -789,7 +794,7 @@ public final class PromiseTest {
     due(lab.bet(1, 7, 1), 99);
     due(lab.guess(1), 7);
     due(lab.pot(), 100);
-    lab.settle();
+    due(lab.settle(), 1);
     due(lab.coins(0), 200 - 99);
     due(lab.coins(1), 99);
     due(lab.bet(1, 1, 98), 1);
@@ -827,10 +832,11 @@ public final class PromiseTest {
     due(lab.settle(), 1);
     due(lab.coins(0), 105);
     due(lab.coins(1), 75);
-    // The guess of a settled bet counts no more.
-    run(lab, "bet 1 0:5");
-    due(lab.settle(), 0);
+    // The guess of a settled bet counts no more, and a stake of 1 is a bet.
+    run(lab, "bet 1 0:5;bet 2 1:1");
+    due(lab.settle(), 1);
     due(lab.coins(0), 105);
+    due(lab.coins(2), 109 - 1 + 6);
   }
 
   private static void promise42() {
@@ -1130,6 +1136,41 @@ public final class PromiseTest {
     thrown(ELEMENT, lab::undo);
     onlyEightAreKept();
     whatIsNoChange();
+    eachChangeIsUndone();
+  }
+
+  private static void eachChangeIsUndone() {
+    KnotLaboratory lab = after("poke 0 0=+;poke 4 4x-;switch 3;curl 8-u;curl 0+o");
+    run(lab, "player;player;player;bet 0 1:30;bet 1 2:1");
+    List<Call> changes = List.of(() -> lab.addCurl(3, true, false), () -> lab.removeCurl(5),
+        () -> lab.addPoke(0, 0, true, true), () -> lab.removePoke(0, 1),
+        () -> lab.switchCrossing(2), lab::mirror, lab::reverse, () -> lab.turn(4), lab::reduce,
+        lab::addPlayer, () -> lab.bet(2, 7, 99), lab::settle,
+        () -> run(lab, "mirror;player;settle;turn 1"));
+    for (int index = 0; index < changes.size(); index++) {
+      if (index == 2) {
+        lab.removeCurl(5);
+      }
+      String before = everything(lab);
+      Call change = changes.get(index);
+      due(outcome(change) instanceof Class, false);
+      due(everything(lab).equals(before), false);
+      due(lab.undo(), index < 2 ? 2 : 3);
+      due(everything(lab), before);
+    }
+  }
+
+  /** The diagram and the bets as a text. */
+  private static String everything(KnotLaboratory lab) {
+    StringBuilder all = new StringBuilder(diagram(lab));
+    all.append(" house ").append(lab.house());
+    for (int player = 0; player < lab.playerCount(); player++) {
+      int index = player;
+      all.append(" coins ").append(lab.coins(player));
+      all.append(" guess ").append(outcome(() -> lab.guess(index)));
+      all.append(" pot ").append(lab.pot());
+    }
+    return all.toString();
   }
 
   private static void onlyEightAreKept() {
