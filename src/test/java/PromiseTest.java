@@ -1,112 +1,10 @@
 import java.util.List;
-import java.util.NoSuchElementException;
 
 /** For each promise of the document ordinary calls, the edges that it names, and wrong ones. */
-public final class PromiseTest {
-  private static final Class<?> INDEX = IndexOutOfBoundsException.class;
-  private static final Class<?> ARGUMENT = IllegalArgumentException.class;
-  private static final Class<?> STATE = IllegalStateException.class;
-  private static final Class<?> UNSUPPORTED = UnsupportedOperationException.class;
-  private static final Class<?> ELEMENT = NoSuchElementException.class;
-  private static final Class<?> ARITHMETIC = ArithmeticException.class;
+public final class PromiseTest extends Checks {
   private static final int[] FAR = {Integer.MIN_VALUE, -1, 14, 15, 99, Integer.MAX_VALUE};
 
-  private static int promise;
-  private static int passed;
-  private static int failed;
-
   private PromiseTest() {}
-
-  private interface Call {
-    Object make();
-  }
-
-  private static void due(Object got, Object want) {
-    if (got.equals(want)) {
-      passed++;
-      return;
-    }
-    failed++;
-    System.out.println("promise " + promise + ": " + got + ", due is " + want + lineOfTest());
-  }
-
-  private static void thrown(Class<?> want, Call call) {
-    due(outcome(call), want);
-  }
-
-  private static Object outcome(Call call) {
-    try {
-      return call.make();
-    } catch (RuntimeException e) {
-      return e.getClass();
-    }
-  }
-
-  private static String lineOfTest() {
-    StringBuilder lines = new StringBuilder();
-    for (StackTraceElement step : Thread.currentThread().getStackTrace()) {
-      String method = step.getMethodName();
-      boolean helps = method.equals("due") || method.equals("thrown") || method.equals("lineOfTest");
-      if (step.getClassName().equals("PromiseTest") && !helps && lines.length() == 0) {
-        lines.append(", line ").append(step.getLineNumber());
-      }
-    }
-    return lines.toString();
-  }
-
-  private static int typeAll(KnotLaboratory lab, String script) {
-    int length = 0;
-    for (char character : script.toCharArray()) {
-      length = lab.type(character);
-    }
-    return length;
-  }
-
-  private static int run(KnotLaboratory lab, String script) {
-    typeAll(lab, script);
-    return lab.runScript();
-  }
-
-  /** A new laboratory after some scripts. */
-  private static KnotLaboratory after(String... scripts) {
-    KnotLaboratory lab = new KnotLaboratory();
-    for (String script : scripts) {
-      run(lab, script);
-    }
-    return lab;
-  }
-
-  private static String output(KnotLaboratory lab, int length) {
-    StringBuilder text = new StringBuilder();
-    for (int index = 0; index < length; index++) {
-      text.append(lab.outputAt(index));
-    }
-    return text.toString();
-  }
-
-  private static String diagram(KnotLaboratory lab) {
-    return output(lab, lab.renderDiagram());
-  }
-
-  private static String polynomial(KnotLaboratory lab) {
-    return output(lab, lab.renderPolynomial());
-  }
-
-  /** Seven curls, one behind the other. */
-  private static KnotLaboratory full() {
-    return after("curl 0+o;curl 2-u;curl 4+o;curl 6-u", "curl 8+o;curl 10-u;curl 12+o");
-  }
-
-  /** An odd number of positive crossings that alternate: o0 u1 o2 .. u0 o1 u2 .. */
-  private static KnotLaboratory torus(int crossings) {
-    KnotLaboratory lab = new KnotLaboratory();
-    lab.addCurl(0, true, true);
-    for (int first = 1; first < crossings; first += 2) {
-      lab.addPoke(first, 2 * first, true, false);
-      lab.switchCrossing(first);
-    }
-    return lab;
-  }
 
   private static void promise01() {
     KnotLaboratory lab = new KnotLaboratory();
@@ -1057,7 +955,8 @@ public final class PromiseTest {
         "curl 0+x", "curl 123+o", "curl +o", "curl 1", "curl 12", "curl 1 +", "poke 1 2", "poke 1=",
         "poke 11 22x+;", "poke 1 2=o", "poke  1", "bet 0 12:3", "bet 0 1:123", "bet 0 1:", "bet 01",
         "mirror;", "mirror;;", ";mirror", "mirror ", "mirrors", "Mirror", "re", "rev", "rex",
-        "reduce;reverse;rer", "turn 5;turn 123", "turn", "turn -1", "s", "se", "sw", "sx", "settle 1",
+        "reduce;reverse;rer", "turn 5;turn 123", "turn", "turn -1", "s", "se", "sw", "sx",
+        "settle 1",
         "p", "pl", "po", "pu", "player;bet 0 0:1;switch a", "switch 12", "reduced", "uncurl  1"};
     int[] errors = {0, 0, 2, 3, 2, 8, 9, 8,
         7, 7, 5, 6, 7, 6, 8, 6,
@@ -1269,17 +1168,14 @@ public final class PromiseTest {
       PromiseTest::promise55, PromiseTest::promise56, PromiseTest::promise57,
       PromiseTest::promise58, PromiseTest::promise59,
     };
-    for (Runnable each : promises) {
-      promise++;
-      each.run();
+    for (int index = 0; index < promises.length; index++) {
+      about = "promise " + (index + 1);
+      promises[index].run();
     }
   }
 
   public static void main(String[] args) {
     testAll();
-    System.out.println(promise + " promises: " + passed + " answers as due, " + failed + " not");
-    if (failed > 0) {
-      System.exit(1);
-    }
+    finish("promises");
   }
 }
